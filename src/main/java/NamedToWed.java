@@ -308,7 +308,7 @@ public final class NamedToWed {
         if (what == 0 || what == 2) {
             return Integer.bitCount(wrong);
         }
-        return wrong == 0 ? NOTHING : Integer.numberOfTrailingZeros(wrong);
+        return wrong == 0 ? NOTHING : lowestOf(wrong);
     }
 
     public int whatIs(int p, int q, int what) {
@@ -949,44 +949,35 @@ public final class NamedToWed {
         /** No longer row need be looked at: a son's mother has always the name of a wife. */
         boolean findCousin(Rule rule) {
             for (int step = 0; step < STEP_KINDS; step++) {
-                if (isCousin(rule, step, step)) {
+                // A man's brother has his name and sort: so this asks for the step alone.
+                if (isCousin(rule, BROTHER, step)) {
                     size = 1;
                     steps[0] = step;
                     return true;
                 }
             }
             for (int pair = 0; pair < STEP_KINDS * STEP_KINDS; pair++) {
-                int first = pair / STEP_KINDS;
-                int second = pair % STEP_KINDS;
-                if (isCousinByTwo(rule, first, second)) {
+                if (isCousin(rule, pair / STEP_KINDS, pair % STEP_KINDS)) {
                     size = 2;
-                    steps[0] = first;
-                    steps[1] = second;
+                    steps[0] = pair / STEP_KINDS;
+                    steps[1] = pair % STEP_KINDS;
                     return true;
                 }
             }
             return false;
         }
 
-        private static boolean isBlood(int step) {
-            return step != HUSBAND && step != WIFE;
-        }
-
-        private static boolean isCousin(Rule rule, int step, int last) {
-            boolean is = isBlood(step) && sortBehind(last) == WOMAN;
-            for (int name = 0; name < rule.names && is; name++) {
-                is = rule.go(step, MAN, name) == rule.wife[name];
-            }
-            return is;
-        }
-
-        private static boolean isCousinByTwo(Rule rule, int first, int second) {
+        private static boolean isCousin(Rule rule, int first, int second) {
             boolean is = isBlood(first) && isBlood(second) && sortBehind(second) == WOMAN;
             for (int name = 0; name < rule.names && is; name++) {
                 int middle = rule.go(first, MAN, name);
                 is = rule.go(second, sortBehind(first), middle) == rule.wife[name];
             }
             return is;
+        }
+
+        private static boolean isBlood(int step) {
+            return step != HUSBAND && step != WIFE;
         }
 
         long howMany(Rule rule, int k, int start, int goal) {
@@ -1014,7 +1005,7 @@ public final class NamedToWed {
 
         /**
          * A word leads to several people, so its least row is sought among all to whom the row so far leads.
-         * Whoever is related to one has him related in turn: how far all are from q is how far q is from them.
+         * Whoever is related to one has him related in turn: so as far as one is from q is q from him.
          */
         boolean findOnPeople(Roll roll, int p, int q) {
             size = layersFrom(roll, q, p);
@@ -1153,6 +1144,17 @@ public final class NamedToWed {
             }
             return sides;
         }
+    }
+
+    /** The lowest of some (bits); 0 of none. */
+    private static int lowestOf(int those) {
+        int lowest = 0;
+        for (int i = 31; i >= 0; i--) {
+            if ((those >> i & 1) != 0) {
+                lowest = i;
+            }
+        }
+        return lowest;
     }
 
     /** Two groups become one, which is called by its lowest. */
@@ -1358,7 +1360,7 @@ public final class NamedToWed {
             return bit(father[p]) | bit(mother[p]) | children[p] | siblings[p];
         }
 
-        /** Those whose child or parent one is have lower numbers: so going up once is enough. */
+        /** Children have higher numbers than their parents: so going through all once is enough. */
         int comeFrom(int p) {
             int all = children[p];
             for (int q = p + 1; q < size; q++) {
@@ -1537,7 +1539,7 @@ public final class NamedToWed {
             if (mayBe[p] == 0) {
                 return -3;
             }
-            return Integer.bitCount(mayBe[p]) == 1 ? Integer.numberOfTrailingZeros(mayBe[p]) : NOTHING;
+            return Integer.bitCount(mayBe[p]) == 1 ? lowestOf(mayBe[p]) : NOTHING;
         }
 
         int howMany(int size, boolean wrongAlone) {
