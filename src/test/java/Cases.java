@@ -8,6 +8,7 @@ import java.util.Comparator;
 final class Cases {
     static final int NONE = -1;
     static final String FOUR = "badc/cdab";
+    static final String CIRCLE = "bcdefa/abcdef";
     private static String now = "";
     private static int asked = 0;
     private static int wrong = 0;

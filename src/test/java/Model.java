@@ -104,6 +104,17 @@ final class Model {
         return tape.size();
     }
 
+    /** Feeds a text, and blanks behind it till there are twenty, forty and so on. */
+    void feedText(String text) {
+        for (int from = 0; from < text.length(); from += 20) {
+            int[] five = new int[5];
+            for (int i = 0; i < 20; i++) {
+                five[i / 4] = five[i / 4] << 8 | (from + i < text.length() ? text.charAt(from + i) : ' ');
+            }
+            feed(five);
+        }
+    }
+
     private boolean lacks(int n, int most) {
         return n < 1 || n > most || n > tape.size();
     }

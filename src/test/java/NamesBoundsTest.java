@@ -1,6 +1,10 @@
+import java.util.ArrayList;
+import java.util.List;
+import java.util.function.BiConsumer;
+
 /** The bounds of ON NAMES: promises 7 to 13. */
 public final class NamesBoundsTest {
-    private static final String CIRCLE = "bcdefa/abcdef";
+    private static final String CIRCLE = Cases.CIRCLE;
 
     private NamesBoundsTest() {
     }
@@ -106,6 +110,18 @@ public final class NamesBoundsTest {
         for (int i = 0; i < rules.length; i++) {
             Cases.due("w by " + rules[i], due[i], Cases.withRule(rules[i]).kin("w", 0, 102));
         }
+    }
+
+    static void promise7EachStepByTheSortOfTheOneBefore() {
+        // The wife of a is b, of b c, of c a; a child has its mother's name: a man's is his wife's.
+        Teller t = Cases.withRule("bca/abc");
+        Cases.due("a mother's son has one's own name", 3, t.kin("ms", 0, 101));
+        Cases.due("a father's son, too", 3, t.kin("fs", 0, 101));
+        Cases.due("a wife's son has hers", 1, t.kin("ws", 0, 0));
+        Cases.due("a son's son has the second one's", 2, t.kin("2s", 0, 0));
+        Cases.due("a daughter's son has hers", 1, t.kin("ds", 0, 0));
+        Cases.due("a woman's son's daughter has the next one's", 1, t.kin("sd", 1, 0));
+        Cases.due("a woman's daughter's daughter has her own", 0, t.kin("2d", 1, 0));
     }
 
     static void promise7LawfulTheOtherSort() {
@@ -249,6 +265,40 @@ public final class NamesBoundsTest {
         }
     }
 
+    /** Asks of each rule of so many names. */
+    private static void ofAllRules(int names, BiConsumer<NamedToWed, Model> asking) {
+        List<String> sides = new ArrayList<>();
+        addRows("", "abcdef".substring(0, names), sides);
+        for (String wives : sides) {
+            for (String children : sides) {
+                NamedToWed v = Cases.withRule(wives + "/" + children).v;
+                Model model = new Model();
+                model.feedText(wives + "/" + children);
+                model.rule(2 * names + 1);
+                asking.accept(v, model);
+            }
+        }
+    }
+
+    private static void addRows(String row, String left, List<String> into) {
+        if (left.isEmpty()) {
+            into.add(row);
+        }
+        for (int i = 0; i < left.length(); i++) {
+            addRows(row + left.charAt(i), left.substring(0, i) + left.substring(i + 1), into);
+        }
+    }
+
+    static void promise9OfAllRulesOfTwoToFourNames() {
+        for (int names = 2; names <= 4; names++) {
+            ofAllRules(names, (v, model) -> {
+                for (int what = 0; what < 3; what++) {
+                    Cases.due("ways " + what, model.ways(what), v.ways(what));
+                }
+            });
+        }
+    }
+
     // ---- promise 10 ----
 
     static void promise10TheSameNone() {
@@ -347,6 +397,17 @@ public final class NamesBoundsTest {
     static void promise11FromEachNameAtOnce() {
         // A mother and a sister have the wife's name from c and d alone.
         Cases.due("a daughter", "d", Cases.withRule("bacd/abcd").cousin());
+    }
+
+    static void promise11OfAllRulesOfTwoToFourNames() {
+        for (int names = 2; names <= 4; names++) {
+            ofAllRules(names, (v, model) -> {
+                Cases.due("steps", model.cousin(100), v.cousin(100));
+                for (int what = 0; what < 3; what++) {
+                    Cases.due("step " + what, model.cousin(what), v.cousin(what));
+                }
+            });
+        }
     }
 
     // ---- promise 12 ----

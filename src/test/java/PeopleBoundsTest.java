@@ -1,3 +1,5 @@
+import java.util.Random;
+
 /** The bounds of ON PEOPLE: promises 14 to 22. */
 public final class PeopleBoundsTest {
     private static final int ALL = (1 << 24) - 1;
@@ -114,6 +116,59 @@ public final class PeopleBoundsTest {
         Cases.due("wrong by a told name", -3, v.personIs(0, 8));
     }
 
+    /** Who is sure to have which name; the wife of a is b, of b c, of c a. */
+    private static void names(String children, String roll, String due) {
+        NamedToWed v = Cases.withRoll("bca/" + children, roll).v;
+        for (int p = 0; p < due.length(); p++) {
+            Cases.due(roll + ", sure " + p, due.charAt(p) - 'a', v.personIs(p, 8));
+            Cases.due(roll + ", may be " + p, 1 << due.charAt(p) - 'a', v.personIs(p, 7));
+        }
+    }
+
+    static void promise14ANameFollowsFromEachOther() {
+        names("abc", "Ma;F&0", "ab");
+        names("abc", "M;Fb&0", "ab");
+        names("abc", "Fb;M&0", "ba");
+        names("abc", "F;Ma&0", "ba");
+        names("cab", "Fa;M<-,0", "ac");
+        names("cab", "F;Mc<-,0", "ac");
+        names("cab", "Ma;M<0,-", "aa");
+        names("cab", "M;Mb<0,-", "bb");
+        names("acb", "Ma;M<0,-", "ac");
+        names("acb", "M;Mc<0,-", "ac");
+    }
+
+    static void promise14ANameFollowsByAChild() {
+        names("acb", "Fa;M;F<1,0", "aca");
+        names("acb", "F;Mc;F<1,0", "aca");
+        names("acb", "Ma;F;M<0,1", "abc");
+        names("acb", "M;Fb;M<0,1", "abc");
+        names("acb", "M;F;Mc<0,1", "abc");
+    }
+
+    static void promise14ANameFollowsRoundAboutToALowerOne() {
+        // She (0) is wed to 3, whose mother is 2, who is wed to 1.
+        names("bca", "Fa;M;F&1;M<-,2&0", "aabc");
+        names("bca", "F;Ma;F&1;M<-,2&0", "aabc");
+        names("bca", "Fa;F;M&1;M<2,-&0", "abac");
+    }
+
+    static void promise14ANameFollowsThroughAll24() {
+        // The last one is the first one's child, and his father's father's father is 1.
+        StringBuilder text = new StringBuilder("F;Ma");
+        for (int p = 2; p < 24; p++) {
+            text.append(";M<").append(p - 1).append(p < 23 ? ",-" : ",0");
+        }
+        // A child has his mother's name, the next one behind his father's.
+        NamedToWed v = Cases.withRoll(Cases.CIRCLE, text.toString()).v;
+        for (int p = 1; p < 24; p++) {
+            Cases.due("sure " + p, (p - 1) % 6, v.personIs(p, 8));
+        }
+        Cases.due("sure is she", 22 % 6, v.personIs(0, 8));
+        Cases.due("one house", 1, v.houses(0));
+        Cases.due("that is right", 0, v.houses(1));
+    }
+
     static void promise14TheLastNameIsSure() {
         NamedToWed v = Cases.withRoll("abcdef/abcdef", "Mf;F&0").v;
         Cases.due("f", 5, v.personIs(1, 8));
@@ -163,6 +218,30 @@ public final class PeopleBoundsTest {
         Cases.due("no told name is there", -2, v.mended(0));
     }
 
+    static void promise15TwoWrongByHowTheyHangTogether() {
+        NamedToWed v = Cases.withRoll("ba/ab", "F;M<-,0&0;M;F;M<-,3&3").v;
+        Cases.due("houses", 3, v.houses(0));
+        Cases.due("wrong", 2, v.houses(1));
+        Cases.due("people", 1 | 2 | 8 | 16, v.houses(2));
+    }
+
+    static void promise15WrongByAWeddingAlone() {
+        // All are named by parents ahead of the wedding of 1 and 2: he is a, and so is she.
+        String roll = "F;M;F&1;M<1,-&0;M<3,2";
+        Cases.due("wives b and a", 1, Cases.withRoll("ba/ab", roll).v.houses(1));
+        Cases.due("mended", -2, Cases.withRoll("ba/ab", roll).v.mended(0));
+        Cases.due("one's own", 0, Cases.withRoll("ab/ab", roll).v.houses(1));
+        Cases.due("children as wives", 0, Cases.withRoll("ba/ba", roll).v.houses(1));
+    }
+
+    static void promise15WrongByAFatherOrAMother() {
+        // His children of whomsoever have the other name than he; those of one of that name have his own.
+        String roll = "M;F<0,-;M<0,1";
+        Cases.due("a daughter's child by her own father", 1, Cases.withRoll("ab/ba", roll).v.houses(1));
+        Cases.due("people", 7, Cases.withRoll("ab/ba", roll).v.houses(2));
+        Cases.due("where a child has its mother's name", 0, Cases.withRoll("ba/ab", roll).v.houses(1));
+    }
+
     static void promise15NoSuchWhat() {
         NamedToWed v = Cases.withRoll("ab/ab", "M").v;
         for (int bad : new int[] {-1, 3, Integer.MIN_VALUE, Integer.MAX_VALUE}) {
@@ -199,6 +278,13 @@ public final class PeopleBoundsTest {
         v = Cases.withRoll("ba/ab", "M;Fa&0;Fb<0,1").v;
         Cases.due("one", 1, v.mended(0));
         Cases.due("the mother's, since he is a then and she b", 2, v.mended(1));
+    }
+
+    static void promise16OneAloneIsAHouse() {
+        NamedToWed v = Cases.withRoll("ab/ab", "Ma;F;Fb").v;
+        Cases.due("none", 0, v.mended(0));
+        Cases.due("which", 0, v.mended(1));
+        Cases.due("not -2", 0, Cases.withRoll("ab/ab", "M").v.mended(0));
     }
 
     static void promise16OfEachHouse() {
@@ -251,6 +337,15 @@ public final class PeopleBoundsTest {
             Cases.due("children of " + rolls[i], wrong[i], v.byTold(2));
             Cases.due("the first of " + rolls[i], wrong[i] == 0 ? -2 : 1, v.byTold(3));
         }
+    }
+
+    static void promise17OfNamesAndNumbersThatAreNot0() {
+        NamedToWed v = Cases.withRoll("acb/bca", "M;M;Fb;Mb<1,2;Mc<1,2;Mb<-,2").v;
+        Cases.due("children", 2, v.byTold(2));
+        Cases.due("the first", 3, v.byTold(3));
+        v = Cases.withRoll("bca/abc", "M;F;Mc;Fc&2;Fb;Mc&4").v;
+        Cases.due("weddings", 2, v.byTold(0));
+        Cases.due("the first", 2, v.byTold(1));
     }
 
     static void promise17AWeddingByTheLowerNumber() {
@@ -343,6 +438,28 @@ public final class PeopleBoundsTest {
         Cases.due("son ahead of daughter", "s", wed.whatIs(0, 1));
     }
 
+    static void promise18TheLeastRowOfAllToWhomItLeads() {
+        // A son's daughter, but another son's wife, too: sw ahead of sd, though the first son is the lower one.
+        Teller t = Cases.withRoll("ab/ab", "M;M<0,-;M<0,-;F<1,-&2");
+        Cases.due("the second son's wife", "sw", t.whatIs(0, 3));
+        Cases.due("up by the father", "ff", t.whatIs(3, 0));
+        t = Cases.withRoll("ab/ab", "F;F<-,0;F<-,0;M<-,1&2");
+        Cases.due("the second daughter's husband", "dh", t.whatIs(0, 3));
+        // By a son and by a daughter: s ahead of d, whatever follows.
+        t = Cases.withRoll("ab/ab", "M;F<0,-;M<0,-;M<2,-;F&3;M<3,1");
+        Cases.due("a son's son's son", "ds", t.whatIs(0, 5));
+        t = Cases.withRoll("ab/ab", "M;F<0,-;M<0,-;M<2,1");
+        Cases.due("a son's son, not a daughter's", "ss", t.whatIs(0, 3));
+        Cases.due("by the father", "ff", t.whatIs(3, 0));
+    }
+
+    static void promise18TheFewestAheadOfTheLeastRow() {
+        Teller t = Cases.withRoll("ab/ab", "M;F&0;M<0,1;F<0,1;M<2,-;F<-,3");
+        Cases.due("z ahead of fd", "z", t.whatIs(2, 3));
+        Cases.due("a cousin by the parents' sister", "fzd", t.whatIs(4, 5));
+        Cases.due("and back", "mbs", t.whatIs(5, 4));
+    }
+
     static void promise18ABrotherIsAnotherOne() {
         // From one to his half brother's half brother: two brothers, not he himself.
         Teller t = Cases.withRoll("ab/ab", "M;F;M<0,-;M<0,1;M<-,1");
@@ -404,6 +521,20 @@ public final class PeopleBoundsTest {
     }
 
     // ---- promise 20 ----
+
+    static void promise19EachStepAlone() {
+        Teller t = Cases.withRoll("ab/ab", "M;F&0;M<0,1;F<0,1;M<0,1;F<0,1;M;F");
+        String[] steps = {"f", "m", "h", "s", "d", "b", "z"};
+        int[] ofTheLastDaughter = {1, 2, 0, 0, 0, 4 | 16, 8};
+        int[] ofTheMother = {0, 0, 1, 4 | 16, 8 | 32, 0, 0};
+        for (int i = 0; i < steps.length; i++) {
+            Cases.due(steps[i], ofTheLastDaughter[i], t.those(5, steps[i]));
+            Cases.due(steps[i], ofTheMother[i], t.those(1, steps[i]));
+            Cases.due(steps[i], 0, t.those(7, steps[i]));
+        }
+        Cases.due("w", 2, t.those(0, "w"));
+        Cases.due("zb", 4 | 16, t.those(2, "zb"));
+    }
 
     static void promise20NoSuchOne() {
         NamedToWed v = Cases.withRoll("ab/ab", "M;F").v;
@@ -478,6 +609,49 @@ public final class PeopleBoundsTest {
         // Untold men are taken first, told ones can have but one.
         Cases.due("told ones behind", 4, Cases.withRoll("abcd/abcd", "M;M;Ma;Mb;Fa;Fb;Fc;Fd").v.weddings());
         Cases.due("two for one", 3, Cases.withRoll("abcd/abcd", "M;Ma;Ma;Mb;Fa;Fb;Fc").v.weddings());
+    }
+
+    static void promise21WomenFirst() {
+        Cases.due("two", 2, Cases.withRoll("ab/ab", "F;F;M;M").v.weddings());
+        Cases.due("by names", 1, Cases.withRoll("ab/ab", "Fa;Fb;Ma;Ma").v.weddings());
+        Cases.due("the first woman", 1, Cases.withRoll("ab/ab", "Fa;Fb;Fb;Ma").v.weddings());
+    }
+
+    /** The most pairs, by trying for each from this one on to leave him, or to wed him to each who is left. */
+    private static int most(int[] may, int p, int taken) {
+        if (p == may.length) {
+            return 0;
+        }
+        int best = most(may, p + 1, taken);
+        for (int q = 0; q < may.length; q++) {
+            if ((may[p] & ~taken & 1 << q) != 0) {
+                best = Math.max(best, 1 + most(may, p + 1, taken | 1 << q));
+            }
+        }
+        return best;
+    }
+
+    static void promise21TheMostOfThoseWhoMayWed() {
+        Random random = new Random(21);
+        for (int run = 0; run < 400; run++) {
+            StringBuilder text = new StringBuilder("M;F");
+            for (int p = 2; p < 12; p++) {
+                text.append(random.nextBoolean() ? ";M" : ";F");
+                if (random.nextInt(5) < 3) {
+                    text.append((char) ('a' + random.nextInt(4)));
+                }
+                // Brothers and sisters are ruled out: so each has others whom he may wed.
+                if (random.nextInt(3) == 0) {
+                    text.append("<0,1");
+                }
+            }
+            NamedToWed v = Cases.withRoll("abcd/abcd", text.toString()).v;
+            int[] may = new int[12];
+            for (int p = 0; p < 12; p++) {
+                may[p] = v.personIs(p, 0) == 0 ? v.mayWed(p) : 0;
+            }
+            Cases.due("weddings of " + text, most(may, 0, 0), v.weddings());
+        }
     }
 
     // ---- promise 22 ----

@@ -209,6 +209,15 @@ public final class RuleBoundsTest {
         }
     }
 
+    static void ruleANewOneForgetsToldNamesFarBeyond() {
+        Teller t = Cases.withRoll("abcdef/abcdef", "Ma;Mb;Mc;Md;Me;Mf;M");
+        t.rule("ab/ab");
+        for (int p = 0; p < 7; p++) {
+            Cases.due("told " + p, p < 2 ? p : -2, t.v.personIs(p, 1));
+            Cases.due("may be " + p, p < 2 ? 1 << p : 3, t.v.personIs(p, 7));
+        }
+    }
+
     static void ruleANewOneSettlesTheHousesAnew() {
         Teller t = Cases.withRoll("ab/ab", "Ma;Fa&0");
         Cases.due("right", 0, t.v.houses(1));
