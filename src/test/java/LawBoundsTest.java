@@ -263,6 +263,22 @@ public final class LawBoundsTest {
         }
     }
 
+    static void promise4NothingIsLeftOfThoseBefore() {
+        Teller t = Cases.withRule("ba/ab");
+        t.v.people(0, 100, 0, 0);
+        t.v.people(1, 0, 100, 0);
+        String full = "w" + Cases.times("m+", 116) + "m(1=1)";
+        for (int i = 0; i < 6; i++) {
+            Cases.due("full", 1, t.law(full));
+            Cases.due("weddings", 100, t.v.tried(1, 0));
+            Cases.due("a fault at its end", -1239, t.law("x(" + Cases.times("n=0&", 58) + "n=00)$"));
+            Cases.due("sixteen", 16, t.law(Cases.times("x(n=1);", 15) + "x(n=1)"));
+            Cases.due("weddings", 50, t.v.tried(1, 0));
+            Cases.due("two", 2, t.law("w7(n=1);w8(n=0)"));
+            Cases.due("weddings", 8, t.v.tried(1, 0));
+        }
+    }
+
     static void promise4NoneNoSuchNumber() {
         Teller t = new Teller();
         t.feed("x(n=0)" + Cases.times("!", 254));

@@ -370,6 +370,7 @@ public final class NamesBoundsTest {
     static void promise11WithoutHusbandsAndWives() {
         // A wife is one step; without w she is a son's mother, if nothing is ahead of that.
         Cases.due("a son's mother", "sm", Cases.withRule("bcda/bacd").cousin());
+        Cases.due("a son's mother, of five names", "sm", Cases.withRule("bcdea/bcdea").cousin());
         Cases.due("a mother", "m", Cases.withRule(own(6)).cousin());
         Cases.due("a daughter", "d", Cases.withRule("bca/abc").cousin());
         Cases.due("a father's mother", "fm", Cases.withRule(Cases.FOUR).cousin());

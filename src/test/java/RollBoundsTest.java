@@ -286,6 +286,30 @@ public final class RollBoundsTest {
         }
     }
 
+    static void promise6NothingIsLeftOfThoseBefore() {
+        Teller t = Cases.withRule(Cases.FOUR);
+        String full = fullText();
+        for (int i = 0; i < 6; i++) {
+            Cases.due("full", 24, t.roll(full));
+            Cases.due("a fault", -1005, t.roll("M;F&0<"));
+            if (i % 2 == 0) {
+                Cases.due("one", 1, t.roll("M"));
+            }
+            Cases.due("few", 3, t.roll("F;M;F"));
+            Cases.due("men", 2, t.v.count(3));
+            Cases.due("wed", 0, t.v.count(4));
+            for (int p = 0; p < 3; p++) {
+                for (int what = 1; what < 5; what++) {
+                    Cases.due("told " + what, -2, t.v.personIs(p, what));
+                }
+                Cases.due("children", 0, t.v.personIs(p, 5));
+                Cases.due("brothers and sisters", 0, t.v.personIs(p, 6));
+                Cases.due("may be", 15, t.v.personIs(p, 7));
+            }
+            Cases.due("houses", 3, t.v.houses(0));
+        }
+    }
+
     static void promise6NoneNoRule() {
         Teller t = new Teller();
         t.feed("M!");

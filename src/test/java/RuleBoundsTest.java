@@ -239,6 +239,23 @@ public final class RuleBoundsTest {
         Cases.due("kept", true, t.v.undo());
     }
 
+    static void promise5NothingIsLeftOfThoseBefore() {
+        Teller t = new Teller();
+        for (int i = 0; i < 6; i++) {
+            Cases.due("six", 6, t.rule("bcdefa/fabcde"));
+            Cases.due("a fault", -6012, t.rule("fedcba/abcdea"));
+            if (i % 2 == 0) {
+                Cases.due("three", 3, t.rule("bca/abc"));
+            }
+            Cases.due("two", 2, t.rule("ba/ab"));
+            Cases.due("names", 2, t.v.count(1));
+            Cases.due("wife", 1, t.v.nameIs(0, 4));
+            Cases.due("child", 0, t.v.nameIs(0, 5));
+            Cases.due("ways", 2, t.v.ways(0));
+            Cases.due("no third name", Cases.NONE, t.v.nameIs(2, 4));
+        }
+    }
+
     static void promise5AFaultAllStays() {
         Teller t = Cases.withRoll("abc/bca", "Ma;Fc;M");
         t.v.people(2, 3, 4, 5);
