@@ -2,6 +2,7 @@ import java.io.IOException;
 import java.io.UncheckedIOException;
 import java.lang.reflect.Array;
 import java.lang.reflect.Field;
+import java.lang.reflect.Method;
 import java.lang.reflect.Modifier;
 import java.net.URL;
 import java.net.URLClassLoader;
@@ -48,9 +49,12 @@ public final class ReadmeTest {
         }
         program.append("}\n}\n");
         List<String[]> answers = answersOf(program.toString());
-        Cases.due("a README with examples of all calls", true, answers.size() > 40);
         for (String[] answer : answers) {
             Cases.due("README: " + answer[0], answer[1], answer[2]);
+        }
+        for (Method call : NamedToWed.class.getDeclaredMethods()) {
+            boolean shown = answers.stream().anyMatch(answer -> answer[0].startsWith("valley." + call.getName() + "("));
+            Cases.due("README: shows " + call, true, shown || !Modifier.isPublic(call.getModifiers()));
         }
     }
 
